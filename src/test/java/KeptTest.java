@@ -117,6 +117,23 @@ public final class KeptTest {
         Check.due("second alone", y.opened(2), 1);
         Check.due("twins tell", y.opened(3), 0);
         Check.due("the most of like ones", y.most(), 1);
+        twinsAreLaidAnew();
+    }
+
+    private static void twinsAreLaidAnew() {
+        UnderBars x = new UnderBars();
+        Check.names(x, "a", "b", "c", "d");
+        x.offices(0, 1);
+        x.offices(1, 1);
+        x.offices(2, 2);
+        x.offices(3, 2);
+        Check.page(x, "day 0 fount 0:office 0 [5]");
+        Check.page(x, "day 0 fount 0:office 0 [5]");
+        Check.page(x, "day 0 fount 0:office 1 [5]");
+        x.twins(0, 1);
+        x.keep(15);
+        Check.due("all of them", x.opened(7), 1);
+        Check.due("the third in the twin's stead", x.opened(5), 1);
     }
 
     private static void most() {
@@ -293,6 +310,11 @@ public final class KeptTest {
         Check.due("none", x.wider(), UnderBars.NONE);
         x.there(0, 1, 1);
         Check.due("no reading, nobody betrayed", x.wider(), 0);
+        UnderBars y = new UnderBars();
+        Check.names(y, "a", "b");
+        Check.page(y, "day 0 fount 0:office 0 a,office 0 [5]");
+        y.keep(2);
+        Check.due("open places stay open", y.wider(), UnderBars.NONE);
     }
 
     private static void widerLarge() {

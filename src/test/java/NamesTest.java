@@ -153,7 +153,8 @@ public final class NamesTest {
         UnderBars x = new UnderBars();
         Check.names(x, "a");
         Check.due("weight", x.weight(0, 9), 1);
-        Check.due("weight again", x.weight(0, 2), 9);
+        Check.due("weight again", x.weight(0, 1), 9);
+        Check.due("weight once more", x.weight(0, 2), 1);
         Check.due("0", x.weight(0, 0), UnderBars.OUTSIDE);
         Check.due("10", x.weight(0, 10), UnderBars.OUTSIDE);
         Check.due("unknown ahead", x.weight(1, 10), UnderBars.UNKNOWN);

@@ -49,6 +49,8 @@ public final class PagesTest {
         Check.faulty(x, "da y 1", 1, 0);
         Check.faulty(x, "days 1", 1, 0);
         Check.faulty(x, "da", 1, 0);
+        Check.faulty(x, "may 1", 1, 0);
+        Check.faulty(x, "day 5 mount 0", 1, 6);
         Check.faulty(x, "dayfount", 1, 0);
         Check.faulty(x, "day", 1, 3);
         Check.faulty(x, "day ", 1, 4);
@@ -104,6 +106,7 @@ public final class PagesTest {
         Check.faulty(x, "day 5 fount 0:office 0 da", 3, 23);
         Check.faulty(x, "day 5 fount 0:office 0 abcdefghijklmnop P", 3, 23);
         Check.faulty(x, "day 5 fount 0:office 0 p,office 1 p", 3, 34);
+        Check.faulty(x, "day 5 fount 0:office 0 p,office 1 day,office 2 p", 3, 47);
         Check.due("on another page", Check.page(x, "day 5 fount 0:office 0 p"), 0);
         Check.due("on this page anew", Check.page(x, "day 5 fount 0:office 0 p"), 1);
         Check.faulty(x, "day 5 fount 0:office 0 new", 3, 23);

@@ -9,6 +9,8 @@ public final class ReadingsTest {
         unlikeOnOnePage();
         neverOnOnePage();
         twinsAreTheSame();
+        twinsOfTwo();
+        readersDoNotMatter();
         withoutNames();
         order();
         threeThousandTries();
@@ -99,6 +101,33 @@ public final class ReadingsTest {
         x.twins(3, 4);
         Check.due("twins on one page", x.readings(), 0);
         Check.due("may without readings", x.may(0), 0);
+    }
+
+    private static void twinsOfTwo() {
+        UnderBars x = new UnderBars();
+        Check.names(x, "a", "b", "c");
+        for (int k = 0; k < 3; k++) {
+            Check.page(x, "day 0 fount 0:office 0 [5]");
+        }
+        x.twins(2, 0);
+        x.twins(2, 1);
+        Check.due("the last is the twin of both", x.readings(), 3);
+        Check.due("so both are the same", x.reading(1, 0) + x.reading(1, 1) + x.reading(1, 2), 3);
+    }
+
+    private static void readersDoNotMatter() {
+        UnderBars x = new UnderBars();
+        Check.names(x, "a", "b");
+        Check.page(x, "day 0 fount 0:office 0 [5]");
+        for (int r = 0; r < 4; r++) {
+            x.away(r, 1);
+            x.knows(r, 0, 1);
+        }
+        Check.due("readings", x.readings(), 2);
+        Check.due("reading", x.reading(0, 0), 0);
+        Check.due("may", x.may(0), 3);
+        Check.due("odds", x.odds(0, 0, 1), 2);
+        Check.due("on", x.on(0), 1);
     }
 
     private static void withoutNames() {
@@ -227,6 +256,19 @@ public final class ReadingsTest {
         Check.due("no reading, lower", x.odds(0, 0, 1), UnderBars.NOT);
         Check.due("outside ahead of not", x.odds(0, 0, 2), UnderBars.OUTSIDE);
         manyWeights();
+        oneReading();
+    }
+
+    private static void oneReading() {
+        UnderBars x = new UnderBars();
+        Check.names(x, "a", "bb");
+        Check.page(x, "day 0 fount 0:office 0 [5]");
+        x.weight(0, 7);
+        Check.due("sure, upper", x.odds(0, 0, 0), 1);
+        Check.due("sure, lower", x.odds(0, 0, 1), 1);
+        Check.due("not at all, lower", x.odds(0, 1, 1), 1);
+        Check.due("surely by one reading", x.on(0), 2);
+        Check.due("not by one reading", x.on(1), 0);
     }
 
     private static void manyWeights() {
@@ -248,6 +290,16 @@ public final class ReadingsTest {
         Check.due("and 8 to the eighth", x.odds(7, 0, 1), 43046721L + 16777216L);
     }
 
+    private static void onByFirstAndLast() {
+        UnderBars x = new UnderBars();
+        Check.names(x, "a", "b", "cc", "dd");
+        Check.page(x, "day 0 fount 0:office 0 [5]");
+        Check.page(x, "day 0 fount 0:office 0 [10]");
+        for (int n = 0; n < 4; n++) {
+            Check.due("maybe, under one of two bars", x.on(n), 1);
+        }
+    }
+
     private static void on() {
         UnderBars x = new UnderBars();
         Check.names(x, "a", "b", "c", "dd");
@@ -262,6 +314,7 @@ public final class ReadingsTest {
         Check.due("shown", x.on(3), 2);
         x.twins(0, 1);
         Check.due("without readings", x.on(0), 0);
+        onByFirstAndLast();
         Check.due("shown without readings", x.on(3), 2);
         UnderBars y = tenByDays();
         for (int k = 0; k < 4; k++) {
