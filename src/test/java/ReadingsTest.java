@@ -293,6 +293,7 @@ public final class ReadingsTest {
     private static void onByFirstAndLast() {
         UnderBars x = new UnderBars();
         Check.names(x, "a", "b", "cc", "dd");
+        Check.due("not, without bars", x.on(0), 0);
         Check.page(x, "day 0 fount 0:office 0 [5]");
         Check.page(x, "day 0 fount 0:office 0 [10]");
         for (int n = 0; n < 4; n++) {
