@@ -11,8 +11,11 @@ public final class KeptTest {
         most();
         mostLarge();
         fewest();
+        fewestByNumber();
         fewestByPlaces();
         fewestLooksAtEight();
+        fewestByThePlaceBarred();
+        fewestByNever();
         fewestWithoutReading();
         fewestLarge();
         wider();
@@ -134,6 +137,19 @@ public final class KeptTest {
         x.keep(15);
         Check.due("all of them", x.opened(7), 1);
         Check.due("the third in the twin's stead", x.opened(5), 1);
+        UnderBars y = new UnderBars();
+        Check.names(y, "a", "b", "c", "d");
+        y.offices(0, 1);
+        y.offices(1, 1);
+        y.offices(2, 2);
+        y.offices(3, 2);
+        Check.page(y, "day 0 fount 0:office 0 [5]");
+        Check.page(y, "day 0 fount 0:office 1 [5]");
+        Check.page(y, "day 0 fount 0:office 0 [5]");
+        y.twins(0, 2);
+        y.keep(15);
+        Check.due("all of them", y.opened(7), 1);
+        Check.due("the second in the first twin's stead", y.opened(6), 1);
     }
 
     private static void most() {
@@ -149,6 +165,10 @@ public final class KeptTest {
         Check.due("the second alone", x.most(), 2);
         x.offices(1, 14);
         Check.due("none", x.most(), 0);
+        x.slack(5);
+        Check.due("by slack a or c may be under both bars", x.most(), 3);
+        x.slack(4);
+        Check.due("by less than that none", x.most(), 0);
     }
 
     private static void mostLarge() {
@@ -213,6 +233,22 @@ public final class KeptTest {
         Check.due("to someone who knows nothing", x.fewest(), 1);
     }
 
+    /** One place will do, or two others, whose set is the lesser number. */
+    private static void fewestByNumber() {
+        UnderBars x = new UnderBars();
+        Check.names(x, "a", "b", "c", "d");
+        x.offices(0, 9);
+        x.offices(1, 3);
+        x.offices(2, 14);
+        x.offices(3, 12);
+        Check.page(x, "day 0 fount 0:office 0 a,office 1 b,office 2 d,office 3 [5]");
+        x.keep(4);
+        Check.due("told to be c", x.betrayed(0), 4);
+        Check.due("the third, so that it may be d", x.fewest(), 4);
+        x.offices(3, 4);
+        Check.due("d does not hold the bar's office: the first two, so that it may be a", x.fewest(), 3);
+    }
+
     private static void fewestByPlaces() {
         // the place barred too comes ahead of the bar told first
         UnderBars x = new UnderBars();
@@ -252,6 +288,55 @@ public final class KeptTest {
         Check.due("the eighth still", x.fewest(), 128);
         x.keep(16);
         Check.due("the ninth is not looked at", x.fewest(), UnderBars.NONE);
+    }
+
+    /** A place barred too has the fount, the day and the office of its own, and the width of the name in it. */
+    private static void fewestByThePlaceBarred() {
+        UnderBars x = new UnderBars();
+        Check.names(x, "a", "bb");
+        x.wide(1, 0, 6);
+        x.wide(1, 1, 3);
+        Check.page(x, "day 7 fount 1:office 2 a");
+        x.keep(1);
+        Check.due("b is as wide in fount 1", x.fewest(), 1);
+        x.wide(1, 1, 4);
+        Check.due("and is wider now", x.fewest(), UnderBars.NONE);
+        x.slack(2);
+        Check.due("by slack", x.fewest(), 1);
+        x.slack(1);
+        Check.due("by less than that", x.fewest(), UnderBars.NONE);
+        x.slack(0);
+        x.wide(1, 0, 8);
+        Check.due("as wide as the name is now", x.fewest(), 1);
+        x.there(1, 8, 99);
+        Check.due("not there yet", x.fewest(), UnderBars.NONE);
+        x.there(1, 0, 6);
+        Check.due("no longer there", x.fewest(), UnderBars.NONE);
+        x.there(1, 7, 7);
+        Check.due("there that day", x.fewest(), 1);
+        x.offices(1, 11);
+        Check.due("not in that office", x.fewest(), UnderBars.NONE);
+        x.offices(1, 4);
+        Check.due("in that one alone", x.fewest(), 1);
+    }
+
+    /** What is shown may be against NEVER; what is barred may not. */
+    private static void fewestByNever() {
+        UnderBars x = new UnderBars();
+        Check.names(x, "a", "b", "c");
+        x.never(0, 1, true);
+        Check.page(x, "day 0 fount 0:office 0 a,office 0 b");
+        x.keep(1);
+        Check.due("b shown: not a, c is not kept", x.fewest(), 1);
+        x.keep(5);
+        Check.due("c alone is told; with both barred a or b is beside c", x.fewest(), 3);
+        x.keep(2);
+        Check.due("likewise b", x.fewest(), 2);
+        x.keep(6);
+        Check.due("c alone is told there, too", x.fewest(), 3);
+        x.never(0, 2, true);
+        x.never(1, 2, true);
+        Check.due("no reading: nobody is told", x.fewest(), 2);
     }
 
     private static void fewestWithoutReading() {

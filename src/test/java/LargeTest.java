@@ -15,6 +15,7 @@ public final class LargeTest {
         triesByNumberOfNames();
         eachReading();
         ofOneState();
+        whatSeemsSure();
         ofPagesOpened();
         ofFewest();
         ofWider();
@@ -120,6 +121,31 @@ public final class LargeTest {
         Check.due("large wider", y.wider(), UnderBars.LARGE);
         Check.due("not fits", y.fits(0), 0xe0);
         Check.due("nor what is shown", shownBeside(y).on(7), 2);
+    }
+
+    /** The first bar is told, as far as the readings are come to; it is LARGE all the same. */
+    private static void whatSeemsSure() {
+        UnderBars x = bars(8, 1, 8, 8, 8, 8);
+        x.keep(128);
+        Check.due("the first reading", x.reading(0, 0), 7);
+        Check.due("on", x.on(7), UnderBars.LARGE);
+        Check.due("may", x.may(0), UnderBars.LARGE);
+        Check.due("odds", x.odds(0, 7, 0), UnderBars.LARGE);
+        Check.due("odds of another", x.odds(0, 0, 0), UnderBars.LARGE);
+        Check.due("betrayed", x.betrayed(0), UnderBars.LARGE);
+        Check.due("opened", x.opened(31), UnderBars.LARGE);
+        // and where none is come to: the last bar has nobody
+        UnderBars y = bars(8, 1, 8, 8, 8, 0);
+        y.keep(128);
+        Check.due("readings", y.readings(), UnderBars.LARGE);
+        Check.due("reading", y.reading(0, 0), UnderBars.LARGE);
+        Check.due("on", y.on(7), UnderBars.LARGE);
+        Check.due("may", y.may(4), UnderBars.LARGE);
+        Check.due("odds", y.odds(0, 7, 0), UnderBars.LARGE);
+        Check.due("betrayed", y.betrayed(0), UnderBars.LARGE);
+        Check.due("opened", y.opened(31), UnderBars.LARGE);
+        Check.due("fewest", y.fewest(), UnderBars.LARGE);
+        Check.due("wider", y.wider(), UnderBars.LARGE);
     }
 
     private static UnderBars shownBeside(UnderBars x) {
