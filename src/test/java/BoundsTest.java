@@ -574,6 +574,15 @@ public final class BoundsTest {
         Check.due("who is kept as well", x.fewest(), UnderBars.NONE);
         Check.names(x, "e");
         Check.due("d or e", x.fewest(), UnderBars.LARGE);
+        UnderBars y = new UnderBars();
+        Check.names(y, "a", "bb", "ccc");
+        for (int k = 0; k < 8; k++) {
+            Check.page(y, "day 0 fount 0:office 0 [10]" + (k < 2 ? ",office 1 [15]" : k == 7 ? ",office 0 a" : ""));
+        }
+        y.keep(1);
+        Check.due("barred behind ten bars, told to be a", y.fewest(), UnderBars.NONE);
+        Check.names(y, "d");
+        Check.due("barred behind ten bars, a or d", y.fewest(), 1);
     }
 
     private static void widerByOne() {

@@ -103,7 +103,7 @@ public final class ModelTest {
 
     /** Mostly as wide as some name is. */
     private int barWidth(int fount) {
-        int width = x.told(chance.nextInt(Math.max(1, names.size())), fount);
+        int width = model.told(chance.nextInt(Math.max(1, names.size())), fount);
         return width > 0 && chance.nextInt(10) > 0 ? width : chance.nextInt(12);
     }
 
@@ -149,12 +149,12 @@ public final class ModelTest {
     }
 
     private void change(int what) {
-        int n = number(x.count(0));
-        int m = number(x.count(0));
-        int b = number(x.count(3));
-        int c = number(x.count(3));
+        int n = number(model.count(0));
+        int m = number(model.count(0));
+        int b = number(model.count(3));
+        int c = number(model.count(3));
         int r = number(4);
-        int set = number(1 << x.count(0)) & (chance.nextBoolean() ? -1 : number(1 << x.count(0)));
+        int set = number(1 << model.count(0)) & (chance.nextBoolean() ? -1 : number(1 << model.count(0)));
         int held = chance.nextBoolean() ? 15 - r : number(16);
         int v = number(10);
         boolean is = chance.nextBoolean();
@@ -179,11 +179,11 @@ public final class ModelTest {
     }
 
     private void ask(int what) {
-        int n = number(x.count(0));
-        int b = number(x.count(3));
-        int p = number(x.count(2));
+        int n = number(model.count(0));
+        int b = number(model.count(3));
+        int p = number(model.count(2));
         int r = number(16);
-        int set = number(1 << x.count(1));
+        int set = number(1 << model.count(1));
         int v = number(9);
         int i = chance.nextInt(3) == 0 ? chance.nextInt(2000) : number(20);
         switch (what) {
