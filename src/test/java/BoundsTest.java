@@ -15,6 +15,7 @@ public final class BoundsTest {
         narrowestAndWidest();
         neverOfAllPairs();
         allPlaces();
+        allPlacesAndAllBars();
         tenBars();
         greatestWeights();
         oddsFromNoughtToOne();
@@ -280,6 +281,33 @@ public final class BoundsTest {
         Check.feed(x, "day 0 fount 0:office 0 a");
         Check.due("no page behind", x.page(), UnderBars.FULL);
         Check.due("no bars", x.count(3), 0);
+        Check.due("shown", x.on(3), 2);
+        x.keep(8);
+        Check.due("shown on each page", x.most(), 0);
+    }
+
+    /** 32 places, ten of them bars. */
+    private static void allPlacesAndAllBars() {
+        UnderBars x = new UnderBars();
+        Check.names(x, "a", "b", "c", "d", "ee");
+        for (int page = 0; page < 8; page++) {
+            String fourth = page < 2 ? "[10]" : "d";
+            Check.page(x, "day 0 fount 0:office 0 a,office 0 [5],office 0 b,office 0 " + fourth);
+        }
+        Check.due("places", x.count(2), 32);
+        Check.due("bars", x.count(3), 10);
+        Check.due("the last place", x.place(31, 2), 3);
+        Check.due("the last bar", x.place(29, 3), 9);
+        Check.due("c or d on the first two pages", x.readings(), 4);
+        Check.due("the last bar is told", x.may(9), 4);
+        Check.due("may of the first", x.may(0), 12);
+        Check.due("on, under bars alone", x.on(4), 2);
+        x.keep(4);
+        Check.due("betrayed", x.betrayed(0), 4);
+        Check.due("wider: told up to 4, large at 5", x.wider(), UnderBars.LARGE);
+        Check.due("most", x.most(), 3);
+        Check.due("the last page", x.opened(128), 0);
+        Check.due("the first", x.opened(1), 1);
     }
 
     private static void tenBars() {
