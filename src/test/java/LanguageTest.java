@@ -77,6 +77,9 @@ public final class LanguageTest {
                 boolean found = java.util.regex.Pattern.compile(barred).matcher(code).find();
                 Check.due("line " + (k + 1) + " has " + barred, found ? 1 : 0, 0);
             }
+            // all calls of a run share one room: rows are made with the object, never by a call
+            boolean makes = code.matches(".*\\bnew\\b.*") && !code.matches(" +(private )?final \\S+ \\w+ = new .*;");
+            Check.due("line " + (k + 1) + " makes an object by a call", makes ? 1 : 0, 0);
             if (line.matches(" {4}(?: {4})?\\S.*\\) \\{")) {
                 start = k;
             }
